@@ -55,7 +55,7 @@ public final class NoWordTwice {
     private static final int STACK = 32;
 
     private final Told now;
-    private final Told taken;
+    private final Told imageHeld;
     private boolean imageTaken;
     private final byte[] tape;
     private int tapeLength;
@@ -68,7 +68,7 @@ public final class NoWordTwice {
 
     public NoWordTwice() {
         now = new Told();
-        taken = new Told();
+        imageHeld = new Told();
         imageTaken = false;
         tape = new byte[TAPE_LENGTH];
         tapeLength = 0;
@@ -304,14 +304,14 @@ public final class NoWordTwice {
 
     public boolean image(boolean taken) {
         if (taken) {
-            this.taken.copyFrom(now);
+            imageHeld.copyFrom(now);
             imageTaken = true;
             return true;
         }
         if (!imageTaken) {
             return false;
         }
-        now.copyFrom(this.taken);
+        now.copyFrom(imageHeld);
         past.forget();
         return true;
     }
@@ -621,14 +621,14 @@ public final class NoWordTwice {
     /** THE LAW, each line's condition as a row of signs, operands ahead of their operator. */
     private static final class Law {
         private int lines;
-        private final boolean[] fixing;
+        private final int[] fixing;
         private final int[] starts;
         private final int[] code;
         private final int[] values;
         private final int[] stack;
 
         Law() {
-            fixing = new boolean[MOST_LINES];
+            fixing = new int[MOST_LINES];
             starts = new int[MOST_LINES + 1];
             code = new int[TAPE_LENGTH];
             values = new int[HEAD - COMMON + 1];
@@ -656,7 +656,7 @@ public final class NoWordTwice {
         boolean saysFix() {
             for (int line = 0; line < lines; line++) {
                 if (holds(starts[line], starts[line + 1])) {
-                    return fixing[line];
+                    return fixing[line] == 1;
                 }
             }
             return false;
@@ -763,7 +763,7 @@ public final class NoWordTwice {
             if (law.lines >= MOST_LINES) {
                 return fail(TOO_MUCH);
             }
-            law.fixing[law.lines] = kind == FIX;
+            law.fixing[law.lines] = kind == FIX ? 1 : 0;
             step();
             if (kind == WHEN) {
                 step();
@@ -911,31 +911,29 @@ public final class NoWordTwice {
         }
 
         private void step() {
-            int from = next;
-            for (; from < length && isBlank(tape[from]); from++) {
-                next = from + 1;
+            while (next < length && isBlank(tape[next])) {
+                next++;
             }
-            place = from;
-            if (from >= length) {
+            place = next;
+            if (next >= length) {
                 kind = END;
-            } else if (isLetter(tape[from])) {
-                stepLetters(from);
-            } else if (isDigit(tape[from])) {
-                stepDigits(from);
+            } else if (isLetter(tape[next])) {
+                stepLetters();
+            } else if (isDigit(tape[next])) {
+                stepDigits();
             } else {
-                kind = kindOfSign(tape[from]);
-                next = from + 1;
+                kind = kindOfSign(tape[next]);
+                next++;
             }
         }
 
-        private void stepLetters(int from) {
-            int to = from;
-            for (; to < length && isLetter(tape[to]); to++) {
-                next = to + 1;
+        private void stepLetters() {
+            while (next < length && isLetter(tape[next])) {
+                next++;
             }
             kind = BAD;
             for (int k = FIX; k <= HEAD; k++) {
-                if (spells(keyword(k), from, to)) {
+                if (spells(keyword(k), place, next)) {
                     kind = k;
                 }
             }
@@ -953,14 +951,13 @@ public final class NoWordTwice {
             return true;
         }
 
-        private void stepDigits(int from) {
-            int to = from;
+        private void stepDigits() {
             number = 0;
-            for (; to < length && isDigit(tape[to]); to++) {
-                number = number * 10 + (tape[to] - '0');
-                next = to + 1;
+            while (next < length && isDigit(tape[next])) {
+                number = number * 10 + (tape[next] - '0');
+                next++;
             }
-            kind = to - from <= 4 ? NUMBER : BAD;
+            kind = next - place <= 4 ? NUMBER : BAD;
         }
 
         private static boolean isBlank(int sign) {
