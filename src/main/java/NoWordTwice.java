@@ -14,6 +14,7 @@ public final class NoWordTwice {
     private static final int BOOK_ROW = 4;
     private static final int TAPE_LENGTH = 400;
     private static final int FED_BYTES = 20;
+    private static final int MOST_DIGITS = 4;
     private static final int MOST_LINES = 16;
     private static final int MOST_OPEN = 8;
     private static final int KEPT_EDITIONS = 6;
@@ -639,12 +640,7 @@ public final class NoWordTwice {
             lines = from.lines;
             System.arraycopy(from.fixing, 0, fixing, 0, fixing.length);
             System.arraycopy(from.starts, 0, starts, 0, starts.length);
-            System.arraycopy(from.code, 0, code, 0, starts[lines]);
-        }
-
-        void clear() {
-            lines = 0;
-            starts[0] = 0;
+            System.arraycopy(from.code, 0, code, 0, code.length);
         }
 
         void give(int kind, int value) {
@@ -655,28 +651,26 @@ public final class NoWordTwice {
 
         boolean saysFix() {
             for (int line = 0; line < lines; line++) {
-                if (holds(starts[line], starts[line + 1])) {
+                int depth = 0;
+                for (int i = starts[line]; i < starts[line + 1]; i++) {
+                    depth = work(code[i], depth);
+                }
+                if (depth == 0 || stack[0] != 0) {
                     return fixing[line] == 1;
                 }
             }
             return false;
         }
 
-        private boolean holds(int from, int to) {
-            int depth = 0;
-            for (int i = from; i < to; i++) {
-                depth = work(code[i], depth);
-            }
-            return depth == 0 || stack[0] != 0;
-        }
-
+        /** One sign's work on the stack: how deep it is then. */
         private int work(int sign, int depth) {
             int kind = sign - FIRST_SIGN;
-            if (kind < 0) {
-                return push(sign, depth);
-            }
-            if (kind >= COMMON && kind <= HEAD) {
-                return push(values[kind - COMMON], depth);
+            if (kind < 0 || kind >= COMMON && kind <= HEAD) {
+                if (depth >= stack.length) {
+                    return depth;
+                }
+                stack[depth] = kind < 0 ? sign : values[kind - COMMON];
+                return depth + 1;
             }
             if (kind == NOT && depth >= 1) {
                 stack[depth - 1] = 1 - stack[depth - 1];
@@ -685,261 +679,97 @@ public final class NoWordTwice {
             if (depth < 2) {
                 return depth;
             }
-            stack[depth - 2] = joined(kind, stack[depth - 2], stack[depth - 1]);
-            return depth - 1;
-        }
-
-        private int push(int value, int depth) {
-            if (depth >= stack.length) {
-                return depth;
-            }
-            stack[depth] = value;
-            return depth + 1;
-        }
-
-        private static int joined(int kind, int a, int b) {
+            int a = stack[depth - 2];
+            int b = stack[depth - 1];
+            int joined;
             switch (kind) {
-                case PLUS: return a + b;
-                case MINUS: return a - b;
-                case TIMES: return a * b;
-                case PART: return b == 0 ? 0 : a / b;
-                case BELOW: return a < b ? 1 : 0;
-                case SAME: return a == b ? 1 : 0;
-                case ABOVE: return a > b ? 1 : 0;
-                case AND: return a & b;
-                case OR: return a | b;
-                default: return 0;
+                case PLUS: joined = a + b; break;
+                case MINUS: joined = a - b; break;
+                case TIMES: joined = a * b; break;
+                case PART: joined = b == 0 ? 0 : a / b; break;
+                case BELOW: joined = a < b ? 1 : 0; break;
+                case SAME: joined = a == b ? 1 : 0; break;
+                case ABOVE: joined = a > b ? 1 : 0; break;
+                case AND: joined = a & b; break;
+                default: joined = a | b; break;
             }
+            stack[depth - 2] = joined;
+            return depth - 1;
         }
     }
 
-    /** Reads a text as a law, from its first token to its last or to its first fault. */
-    private static final class LawReader {
-        private final Law law;
-        private byte[] tape;
-        private int length;
-        private int next;
-        private int kind;
-        private int place;
-        private int number;
-        private int size;
-        private int fault;
-        private int faultPlace;
+    /** A text's tokens, the end being the last of them. */
+    private static final class Tokens {
+        private final int[] kinds;
+        private final int[] places;
+        private final int[] numbers;
+        private int count;
 
-        LawReader() {
-            law = new Law();
-            tape = new byte[0];
-            faultPlace = NONE;
+        Tokens() {
+            kinds = new int[TAPE_LENGTH + 1];
+            places = new int[TAPE_LENGTH + 1];
+            numbers = new int[TAPE_LENGTH + 1];
         }
 
-        boolean readLaw(byte[] bytes, int count) {
-            tape = bytes;
-            length = count;
-            next = 0;
-            size = 0;
-            fault = 0;
-            faultPlace = NONE;
-            law.clear();
-            step();
-            // One line more than may be is tried, so that the one too many is met.
-            for (int line = 0; line <= MOST_LINES && kind != END; line++) {
-                if (!readLine()) {
-                    return false;
+        void split(byte[] tape, int length) {
+            count = 0;
+            int from = 0;
+            // A token has a sign at least, so there are no more of them than signs.
+            for (int i = 0; i < length && from < length; i++) {
+                int to = endOfToken(tape, from, length);
+                if (!isBlank(tape[from])) {
+                    add(kindOf(tape, from, to), from);
+                    numbers[count - 1] = isDigit(tape[from]) ? numberIn(tape, from, to) : 0;
+                }
+                from = to;
+            }
+            add(END, length);
+        }
+
+        private void add(int kind, int place) {
+            kinds[count] = kind;
+            places[count] = place;
+            count++;
+        }
+
+        private static int endOfToken(byte[] tape, int from, int length) {
+            int to = from + 1;
+            if (isLetter(tape[from])) {
+                while (to < length && isLetter(tape[to])) {
+                    to++;
+                }
+            } else if (isDigit(tape[from])) {
+                while (to < length && isDigit(tape[to])) {
+                    to++;
                 }
             }
-            return true;
+            return to;
         }
 
-        private boolean fail(int which) {
-            fault = which;
-            faultPlace = place;
-            return false;
-        }
-
-        private boolean readLine() {
-            if (kind != FIX && kind != LOOSE) {
-                return fail(CANNOT_STAND);
+        private static int kindOf(byte[] tape, int from, int to) {
+            if (isDigit(tape[from])) {
+                return to - from <= MOST_DIGITS ? NUMBER : BAD;
             }
-            if (law.lines >= MOST_LINES) {
-                return fail(TOO_MUCH);
+            if (!isLetter(tape[from])) {
+                return kindOfSign(tape[from]);
             }
-            law.fixing[law.lines] = kind == FIX ? 1 : 0;
-            step();
-            if (kind == WHEN) {
-                step();
-                if (!readEither(0)) {
-                    return false;
+            for (int kind = FIX; kind <= HEAD; kind++) {
+                if (spells(keyword(kind), tape, from, to)) {
+                    return kind;
                 }
             }
-            if (kind != SEMICOLON) {
-                return fail(CANNOT_STAND);
-            }
-            step();
-            law.lines++;
-            law.starts[law.lines] = size;
-            return true;
+            return BAD;
         }
 
-        private boolean readEither(int open) {
-            if (!readBoth(open)) {
-                return false;
+        private static int numberIn(byte[] tape, int from, int to) {
+            int number = 0;
+            for (int i = from; i < to; i++) {
+                number = number * 10 + (tape[i] - '0');
             }
-            for (int i = 0; i < TAPE_LENGTH && kind == OR; i++) {
-                step();
-                if (!readBoth(open)) {
-                    return false;
-                }
-                putSign(OR);
-            }
-            return true;
+            return number;
         }
 
-        private boolean readBoth(int open) {
-            if (!readCondition(open)) {
-                return false;
-            }
-            for (int i = 0; i < TAPE_LENGTH && kind == AND; i++) {
-                step();
-                if (!readCondition(open)) {
-                    return false;
-                }
-                putSign(AND);
-            }
-            return true;
-        }
-
-        private boolean readCondition(int open) {
-            if (kind != NOT && kind != OPEN) {
-                return readComparison();
-            }
-            if (open >= MOST_OPEN) {
-                return fail(TOO_MUCH);
-            }
-            if (kind == NOT) {
-                step();
-                if (!readCondition(open + 1)) {
-                    return false;
-                }
-                putSign(NOT);
-                return true;
-            }
-            step();
-            if (!readEither(open + 1)) {
-                return false;
-            }
-            if (kind != CLOSE) {
-                return fail(CANNOT_STAND);
-            }
-            step();
-            return true;
-        }
-
-        private boolean readComparison() {
-            if (!readSum()) {
-                return false;
-            }
-            int by = kind;
-            if (by != BELOW && by != SAME && by != ABOVE) {
-                return fail(CANNOT_STAND);
-            }
-            step();
-            if (!readSum()) {
-                return false;
-            }
-            putSign(by);
-            return true;
-        }
-
-        private boolean readSum() {
-            if (!readProduct()) {
-                return false;
-            }
-            for (int i = 0; i < TAPE_LENGTH && (kind == PLUS || kind == MINUS); i++) {
-                int by = kind;
-                step();
-                if (!readProduct()) {
-                    return false;
-                }
-                putSign(by);
-            }
-            return true;
-        }
-
-        private boolean readProduct() {
-            if (!readUnit()) {
-                return false;
-            }
-            for (int i = 0; i < TAPE_LENGTH && (kind == TIMES || kind == PART); i++) {
-                int by = kind;
-                step();
-                if (by == PART && kind == NUMBER && number == 0) {
-                    return fail(PART_BY_ZERO);
-                }
-                if (by == PART && kind != NUMBER) {
-                    return fail(CANNOT_STAND);
-                }
-                if (!readUnit()) {
-                    return false;
-                }
-                putSign(by);
-            }
-            return true;
-        }
-
-        private boolean readUnit() {
-            if (kind == NUMBER) {
-                putCode(number);
-            } else if (kind >= COMMON && kind <= HEAD) {
-                putSign(kind);
-            } else {
-                return fail(CANNOT_STAND);
-            }
-            step();
-            return true;
-        }
-
-        private void putSign(int sign) {
-            putCode(FIRST_SIGN + sign);
-        }
-
-        private void putCode(int code) {
-            // Each token gives one sign at most, so the row never runs over.
-            if (size < law.code.length) {
-                law.code[size] = code;
-                size++;
-            }
-        }
-
-        private void step() {
-            while (next < length && isBlank(tape[next])) {
-                next++;
-            }
-            place = next;
-            if (next >= length) {
-                kind = END;
-            } else if (isLetter(tape[next])) {
-                stepLetters();
-            } else if (isDigit(tape[next])) {
-                stepDigits();
-            } else {
-                kind = kindOfSign(tape[next]);
-                next++;
-            }
-        }
-
-        private void stepLetters() {
-            while (next < length && isLetter(tape[next])) {
-                next++;
-            }
-            kind = BAD;
-            for (int k = FIX; k <= HEAD; k++) {
-                if (spells(keyword(k), place, next)) {
-                    kind = k;
-                }
-            }
-        }
-
-        private boolean spells(String keyword, int from, int to) {
+        private static boolean spells(String keyword, byte[] tape, int from, int to) {
             if (keyword.length() != to - from) {
                 return false;
             }
@@ -949,15 +779,6 @@ public final class NoWordTwice {
                 }
             }
             return true;
-        }
-
-        private void stepDigits() {
-            number = 0;
-            while (next < length && isDigit(tape[next])) {
-                number = number * 10 + (tape[next] - '0');
-                next++;
-            }
-            kind = next - place <= 4 ? NUMBER : BAD;
         }
 
         private static boolean isBlank(int sign) {
@@ -1004,6 +825,185 @@ public final class NoWordTwice {
                 case '>': return ABOVE;
                 default: return BAD;
             }
+        }
+    }
+
+    /** Reads a text as a law, from its first token to its last or to its first fault. */
+    private static final class LawReader {
+        private final Tokens tokens;
+        private final Law law;
+        private int at;
+        private int kind;
+        private int size;
+        private int fault;
+        private int faultPlace;
+
+        LawReader() {
+            tokens = new Tokens();
+            law = new Law();
+            faultPlace = NONE;
+        }
+
+        boolean readLaw(byte[] tape, int length) {
+            tokens.split(tape, length);
+            at = 0;
+            kind = tokens.kinds[0];
+            size = 0;
+            fault = 0;
+            faultPlace = NONE;
+            law.lines = 0;
+            // One line more than may be is tried, so that the one too many is met.
+            for (int line = 0; line <= MOST_LINES && kind != END; line++) {
+                if (!readLine()) {
+                    return false;
+                }
+            }
+            return true;
+        }
+
+        private void step() {
+            if (at + 1 < tokens.count) {
+                at++;
+            }
+            kind = tokens.kinds[at];
+        }
+
+        private boolean fail(int which) {
+            fault = which;
+            faultPlace = tokens.places[at];
+            return false;
+        }
+
+        private boolean pass(int wanted) {
+            if (kind != wanted) {
+                return fail(CANNOT_STAND);
+            }
+            step();
+            return true;
+        }
+
+        private void put(int sign) {
+            // Each token gives one sign at most, so the row never runs over.
+            if (size < law.code.length) {
+                law.code[size] = sign;
+                size++;
+            }
+        }
+
+        private boolean readLine() {
+            if (kind != FIX && kind != LOOSE) {
+                return fail(CANNOT_STAND);
+            }
+            if (law.lines >= MOST_LINES) {
+                return fail(TOO_MUCH);
+            }
+            law.fixing[law.lines] = kind == FIX ? 1 : 0;
+            law.starts[law.lines] = size;
+            step();
+            if (kind == WHEN) {
+                step();
+                if (!readJoined(OR, 0)) {
+                    return false;
+                }
+            }
+            law.lines++;
+            law.starts[law.lines] = size;
+            return pass(SEMICOLON);
+        }
+
+        /** Conditions joined by "or", each of them conditions joined by "and". */
+        private boolean readJoined(int by, int open) {
+            for (int i = 0; i < TAPE_LENGTH; i++) {
+                boolean read = by == OR ? readJoined(AND, open) : readCondition(open);
+                if (!read) {
+                    return false;
+                }
+                if (i > 0) {
+                    put(FIRST_SIGN + by);
+                }
+                if (kind != by) {
+                    return true;
+                }
+                step();
+            }
+            return true;
+        }
+
+        private boolean readCondition(int open) {
+            if (kind != NOT && kind != OPEN) {
+                return readComparison();
+            }
+            if (open >= MOST_OPEN) {
+                return fail(TOO_MUCH);
+            }
+            boolean not = kind == NOT;
+            step();
+            if (!not) {
+                return readJoined(OR, open + 1) && pass(CLOSE);
+            }
+            if (!readCondition(open + 1)) {
+                return false;
+            }
+            put(FIRST_SIGN + NOT);
+            return true;
+        }
+
+        private boolean readComparison() {
+            if (!readSum()) {
+                return false;
+            }
+            int by = kind;
+            if (by != BELOW && by != SAME && by != ABOVE) {
+                return fail(CANNOT_STAND);
+            }
+            step();
+            if (!readSum()) {
+                return false;
+            }
+            put(FIRST_SIGN + by);
+            return true;
+        }
+
+        private boolean readSum() {
+            int sumBy = END;
+            int productBy = END;
+            for (int i = 0; i < TAPE_LENGTH; i++) {
+                if (!readUnit(productBy)) {
+                    return false;
+                }
+                if (productBy != END) {
+                    put(FIRST_SIGN + productBy);
+                }
+                productBy = kind == TIMES || kind == PART ? kind : END;
+                if (productBy == END) {
+                    // The product is whole, so the sign ahead of it has both its parts.
+                    if (sumBy != END) {
+                        put(FIRST_SIGN + sumBy);
+                    }
+                    if (kind != PLUS && kind != MINUS) {
+                        return true;
+                    }
+                    sumBy = kind;
+                }
+                step();
+            }
+            return true;
+        }
+
+        private boolean readUnit(int productBy) {
+            if (kind == NUMBER) {
+                int number = tokens.numbers[at];
+                if (productBy == PART && number == 0) {
+                    return fail(PART_BY_ZERO);
+                }
+                put(number);
+            } else if (productBy != PART && kind >= COMMON && kind <= HEAD) {
+                put(FIRST_SIGN + kind);
+            } else {
+                return fail(CANNOT_STAND);
+            }
+            step();
+            return true;
         }
     }
 
@@ -1331,6 +1331,8 @@ public final class NoWordTwice {
         private static final int MOST_SETS = 21;
         // One bit in each of the seven pairs of bits in which the uses left are counted.
         private static final int LOW_BITS = 0x1555;
+        private static final int SLOTS = 4096;
+        private static final int LAST_STAMP = 2047;
 
         private int told;
         private final int[] chosen;
@@ -1340,7 +1342,8 @@ public final class NoWordTwice {
         private final int[] lean;
         private final int[] leanCounts;
         private final int[] tellable;
-        private int[] found;
+        // What was found for a head and the uses left, marked by the stamp of the call for which it holds.
+        private final int[] found;
         private int stamp;
 
         Packing() {
@@ -1350,21 +1353,27 @@ public final class NoWordTwice {
             lean = new int[PACKED_WORDS * MOST_SETS];
             leanCounts = new int[PACKED_WORDS];
             tellable = new int[PACKED_WORDS + 1];
-            found = new int[0];
+            found = new int[SLOTS];
         }
 
         /** Works for a dictionary of seven words at most. */
         void pack(Told from, int m) {
             heads = from.words;
             listSets(from);
-            int size = heads << 2 * heads;
-            if (found.length < size) {
-                found = new int[size];
-            }
-            stamp++;
+            forgetFound();
             int left = m * spaced((1 << heads) - 1);
             told = mostFrom(0, left);
             choose(left);
+        }
+
+        private void forgetFound() {
+            if (stamp == LAST_STAMP) {
+                for (int slot = 0; slot < SLOTS; slot++) {
+                    found[slot] = 0;
+                }
+                stamp = 0;
+            }
+            stamp++;
         }
 
         private void listSets(Told from) {
@@ -1420,8 +1429,9 @@ public final class NoWordTwice {
             if (h >= heads || tellable[h] == 0) {
                 return 0;
             }
-            int slot = h << 2 * heads | left;
-            if (found[slot] >> 3 == stamp) {
+            int key = stamp << 17 | h << 14 | left;
+            int slot = slotOf(key);
+            if (found[slot] >> 3 == key) {
                 return found[slot] & 7;
             }
             int best = 0;
@@ -1434,8 +1444,13 @@ public final class NoWordTwice {
             if (best < tellable[h + 1]) {
                 best = Math.max(best, mostFrom(h + 1, left));
             }
-            found[slot] = stamp << 3 | best;
+            found[slot] = key << 3 | best;
             return best;
+        }
+
+        /** Keys are scattered over the slots; one that takes another's slot only makes that one be sought again. */
+        private static int slotOf(int key) {
+            return key * 0x9E3779B1 >>> 20;
         }
 
         private void choose(int allLeft) {

@@ -51,7 +51,14 @@ public final class LawTest {
         bad("fixx;", 1, 0);
         bad("fixwhen 1=1;", 1, 0);
         bad("Fix;", 1, 0);
-        bad("fixX;", 1, 0);
+        for (char letter : "azAZX".toCharArray()) {
+            bad("fix" + letter + ";", 1, 0);
+        }
+        for (char sign : "@[`{_:".toCharArray()) {
+            bad("fix" + sign + ";", 1, 3);
+        }
+        bad("fix when 1=1 and", 1, 16);
+        bad("fix when 1", 1, 10);
         bad("fix\t;", 1, 3);
         bad("fix\r\n;", 1, 3);
         bad("when 1=1;", 1, 0);

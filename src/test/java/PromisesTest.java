@@ -801,6 +801,7 @@ public final class PromisesTest {
 
     private static void image() {
         CHECK.promise("promise 27");
+        imageOfTheBook();
         NoWordTwice x = withEntries();
         due("none", x.image(false), false);
         Check.law(x, "fix; loose;");
@@ -844,6 +845,28 @@ public final class PromisesTest {
             due("fault() is not gone back to", x.fault(0), 1);
             due("the tape is not gone back to", x.end(20), true);
             x.end(0);
+        }
+    }
+
+    private static void imageOfTheBook() {
+        NoWordTwice x = withEntries();
+        x.set(1, 0, 1000);
+        x.editions(4);
+        int lines = x.look(5);
+        int[] seen = new int[4 * lines];
+        for (int i = 0; i < seen.length; i++) {
+            seen[i] = x.book(i / 4, i % 4);
+        }
+        x.image(true);
+        for (int i = 0; i < 4; i++) {
+            x.undo();
+        }
+        x.state(123456);
+        x.editions(10);
+        x.image(false);
+        due("lines", x.look(5), lines);
+        for (int i = 0; i < seen.length; i++) {
+            due("book(" + i / 4 + ", " + i % 4 + ")", x.book(i / 4, i % 4), seen[i]);
         }
     }
 
