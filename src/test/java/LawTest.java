@@ -221,5 +221,11 @@ public final class LawTest {
         CHECK.due("another law", x.fixes(0, 2), 0);
         x.image(false);
         CHECK.due("the long one again", x.fixes(0, 2), 1);
+        for (int i = 0; i < 15; i++) {
+            Check.law(x, text);
+            Check.law(x, "fix when 1=1 and 2=2 and 3=");
+            CHECK.due("one after another: lines", Check.law(x, "loose when 1+1=3; fix when 1=1 and 2=2;"), 2);
+            CHECK.due("one after another", x.fixes(0, 2), 1);
+        }
     }
 }
