@@ -45,21 +45,6 @@ public final class PromisesTest {
         CHECK.due(call, got, want);
     }
 
-    /** So many words, word i having the mark i modulo ten alone. */
-    private static NoWordTwice withWords(int n) {
-        NoWordTwice x = new NoWordTwice();
-        for (int i = 0; i < n; i++) {
-            x.word(1 << i % 10);
-        }
-        return x;
-    }
-
-    private static NoWordTwice withWordsAndLaw(int n, String law) {
-        NoWordTwice x = withWords(n);
-        Check.law(x, law);
-        return x;
-    }
-
     private static void newObject() {
         CHECK.promise("promise 1");
         NoWordTwice x = new NoWordTwice();
@@ -118,7 +103,7 @@ public final class PromisesTest {
 
     private static void set() {
         CHECK.promise("promise 4");
-        NoWordTwice x = withWords(2);
+        NoWordTwice x = Worlds.words(2);
         due("limit 0", x.set(0, 0, 0), false);
         due("limit 4", x.set(0, 0, 4), false);
         due("limit 3, word not asked", x.set(0, 99, 3), true);
@@ -158,7 +143,7 @@ public final class PromisesTest {
 
     private static void entry() {
         CHECK.promise("promise 5");
-        NoWordTwice x = withWords(4);
+        NoWordTwice x = Worlds.words(4);
         int[][] wrong = {{4, 0, NONE, NONE}, {-1, 0, NONE, NONE}, {0, 0, NONE, NONE}, {0, NONE, NONE, NONE},
             {0, 4, NONE, NONE}, {0, 1, 0, NONE}, {0, 1, 1, NONE}, {0, 1, 4, NONE}, {0, 1, -2, NONE},
             {0, 1, NONE, 2}, {0, 1, 2, 0}, {0, 1, 2, 1}, {0, 1, 2, 2}, {0, 1, 2, 4}, {0, 1, 2, -2},
@@ -188,7 +173,7 @@ public final class PromisesTest {
     }
 
     private static NoWordTwice withEntries() {
-        NoWordTwice x = withWords(5);
+        NoWordTwice x = Worlds.words(5);
         x.entry(0, 1, 2, 3);
         x.entry(1, 2, NONE, NONE);
         x.entry(2, 3, 4, NONE);
@@ -281,7 +266,7 @@ public final class PromisesTest {
 
     private static void text() {
         CHECK.promise("promise 10");
-        NoWordTwice x = withWords(3);
+        NoWordTwice x = Worlds.words(3);
         due("an empty text", x.text(), 0);
         due("law", Check.law(x, "fix when many=1; loose;"), 2);
         due("look(7)", x.look(7), 2);
@@ -421,7 +406,7 @@ public final class PromisesTest {
 
     private static void fixes() {
         CHECK.promise("promise 15");
-        NoWordTwice x = withWordsAndLaw(3, "fix when many=2 and head=1;");
+        NoWordTwice x = Worlds.wordsAndLaw(3, "fix when many=2 and head=1;");
         due("yes", x.fixes(1, 5), 1);
         due("another head", x.fixes(0, 6), 0);
         due("another set", x.fixes(1, 4), 0);
@@ -431,7 +416,7 @@ public final class PromisesTest {
         due("a negative set", x.fixes(1, MIN), NONE);
         due("no head", x.fixes(3, 1), NONE);
         due("head -1", x.fixes(-1, 1), NONE);
-        NoWordTwice y = withWordsAndLaw(16, "fix when many=15;");
+        NoWordTwice y = Worlds.wordsAndLaw(16, "fix when many=15;");
         due("sixteen words", y.fixes(15, 0x7fff), 1);
         due("set 65536", y.fixes(0, 0x10000), NONE);
     }
@@ -444,7 +429,7 @@ public final class PromisesTest {
 
     private static void judge() {
         CHECK.promise("promise 16");
-        NoWordTwice x = withWordsAndLaw(5, "loose when head=4; fix;");
+        NoWordTwice x = Worlds.wordsAndLaw(5, "loose when head=4; fix;");
         judged("no entry", x, 0, NONE, NONE);
         due("what 3", x.judge(3), NONE);
         due("what -1", x.judge(-1), NONE);
@@ -464,7 +449,7 @@ public final class PromisesTest {
         judged("the first entry's fault", x, 3, 2, NONE);
         x.drop(2);
         judged("head of an earlier one", x, 1, 2, NONE);
-        NoWordTwice y = withWordsAndLaw(5, "fix;");
+        NoWordTwice y = Worlds.wordsAndLaw(5, "fix;");
         y.entry(0, 3, 4, NONE);
         y.entry(1, 4, 3, 2);
         y.set(2, 3, 1);
@@ -478,7 +463,7 @@ public final class PromisesTest {
 
     private static void learnt() {
         CHECK.promise("promise 17");
-        NoWordTwice x = withWordsAndLaw(6, "loose when head=5; fix;");
+        NoWordTwice x = Worlds.wordsAndLaw(6, "loose when head=5; fix;");
         x.entry(3, 2, NONE, NONE);
         x.entry(2, 1, 0, NONE);
         x.entry(1, 0, NONE, NONE);
@@ -499,7 +484,7 @@ public final class PromisesTest {
 
     private static void order() {
         CHECK.promise("promise 18");
-        NoWordTwice x = withWords(6);
+        NoWordTwice x = Worlds.words(6);
         x.entry(3, 2, NONE, NONE);
         x.entry(2, 0, NONE, NONE);
         x.entry(1, 0, NONE, NONE);
@@ -518,7 +503,7 @@ public final class PromisesTest {
 
     private static void ring() {
         CHECK.promise("promise 19");
-        NoWordTwice x = withWords(6);
+        NoWordTwice x = Worlds.words(6);
         due("none", x.ring(), 0);
         x.entry(3, 2, NONE, NONE);
         x.entry(2, 0, NONE, NONE);
@@ -529,7 +514,7 @@ public final class PromisesTest {
         due("two", x.ring(), 12);
         x.set(2, 5, 1);
         due("cut", x.ring(), 0);
-        NoWordTwice y = withWords(2);
+        NoWordTwice y = Worlds.words(2);
         for (int i = 0; i < 12; i++) {
             y.entry(i % 2, 1 - i % 2, NONE, NONE);
         }
@@ -538,7 +523,7 @@ public final class PromisesTest {
 
     private static void cut() {
         CHECK.promise("promise 20");
-        NoWordTwice x = withWords(6);
+        NoWordTwice x = Worlds.words(6);
         due("none", x.cut(), 0);
         x.entry(0, 1, NONE, NONE);
         x.entry(1, 0, NONE, NONE);
@@ -554,12 +539,12 @@ public final class PromisesTest {
         due("fewest ahead of least", x.cut(), 1);
         x.set(2, 1, 1);
         due("known already", x.cut(), 0);
-        NoWordTwice y = withWords(16);
+        NoWordTwice y = Worlds.words(16);
         for (int i = 0; i < 12; i++) {
             y.entry(i, (i + 1) % 12, 12 + i % 4, NONE);
         }
         due("a long ring", y.cut(), 0xf001);
-        NoWordTwice z = withWords(3);
+        NoWordTwice z = Worlds.words(3);
         z.entry(1, 0, NONE, NONE);
         due("word 0, which none tells", z.cut(), 1);
         z.entry(0, 2, NONE, NONE);
@@ -574,7 +559,7 @@ public final class PromisesTest {
 
     private static void least() {
         CHECK.promise("promise 21");
-        NoWordTwice x = withWordsAndLaw(6, "loose when head=4; fix;");
+        NoWordTwice x = Worlds.wordsAndLaw(6, "loose when head=4; fix;");
         due("none", x.least(), 0);
         x.entry(0, 1, NONE, NONE);
         x.entry(1, 0, NONE, NONE);
@@ -591,7 +576,7 @@ public final class PromisesTest {
         due("one word for all", x.least(), 32);
         Check.law(x, "");
         due("without a law all heads", x.least(), 15);
-        NoWordTwice y = withWordsAndLaw(4, "fix;");
+        NoWordTwice y = Worlds.wordsAndLaw(4, "fix;");
         y.entry(1, 0, NONE, NONE);
         y.entry(2, 0, NONE, NONE);
         due("word 0 for both", y.least(), 1);
@@ -601,7 +586,7 @@ public final class PromisesTest {
 
     private static void most() {
         CHECK.promise("promise 22");
-        NoWordTwice x = withWordsAndLaw(7, "fix when many=2;");
+        NoWordTwice x = Worlds.wordsAndLaw(7, "fix when many=2;");
         due("1: three pairs", x.most(1, 0), 3);
         due("1: none ahead of all", x.most(1, 10), 0);
         due("1: head 3", x.most(1, 13), 0);
@@ -650,7 +635,7 @@ public final class PromisesTest {
 
     private static void worn() {
         CHECK.promise("promise 23");
-        NoWordTwice x = withWordsAndLaw(5, "fix when many>1;");
+        NoWordTwice x = Worlds.wordsAndLaw(5, "fix when many>1;");
         x.entry(0, 1, 2, NONE);
         x.entry(1, 3, NONE, NONE);
         due("worn(0, 0)", x.worn(0, 0), 1 << 1 | 1 << 4);
@@ -669,7 +654,7 @@ public final class PromisesTest {
 
     private static void trade() {
         CHECK.promise("promise 24");
-        NoWordTwice x = withWordsAndLaw(6, "fix when common>0;");
+        NoWordTwice x = Worlds.wordsAndLaw(6, "fix when common>0;");
         x.set(3, 4, 1);
         x.set(3, 5, 2);
         x.entry(0, 5, 3, NONE);
@@ -694,7 +679,7 @@ public final class PromisesTest {
     private static void book() {
         CHECK.promise("promise 25");
         bookOfSeveralEntries();
-        NoWordTwice x = withWords(16);
+        NoWordTwice x = Worlds.words(16);
         x.entry(3, 1, NONE, NONE);
         x.set(1, 0, 1000);
         int lines = 0;
