@@ -163,8 +163,13 @@ public final class NoWordTwice {
     }
 
     public int text() {
-        boolean good = reader.readLaw(tape, tapeLength);
+        reader.begin(tape, tapeLength);
         tapeLength = 0;
+        boolean good = true;
+        // One line more than may be is tried, so that the one too many is met.
+        for (int line = 0; line <= MOST_LINES && good && reader.goesOn(); line++) {
+            good = reader.readLine();
+        }
         if (!good) {
             return NONE;
         }
@@ -844,7 +849,7 @@ public final class NoWordTwice {
             faultPlace = NONE;
         }
 
-        boolean readLaw(byte[] tape, int length) {
+        void begin(byte[] tape, int length) {
             tokens.split(tape, length);
             at = 0;
             kind = tokens.kinds[0];
@@ -852,13 +857,10 @@ public final class NoWordTwice {
             fault = 0;
             faultPlace = NONE;
             law.lines = 0;
-            // One line more than may be is tried, so that the one too many is met.
-            for (int line = 0; line <= MOST_LINES && kind != END; line++) {
-                if (!readLine()) {
-                    return false;
-                }
-            }
-            return true;
+        }
+
+        boolean goesOn() {
+            return kind != END;
         }
 
         private void step() {
@@ -890,7 +892,7 @@ public final class NoWordTwice {
             }
         }
 
-        private boolean readLine() {
+        boolean readLine() {
             if (kind != FIX && kind != LOOSE) {
                 return fail(CANNOT_STAND);
             }
@@ -1332,7 +1334,6 @@ public final class NoWordTwice {
         // One bit in each of the seven pairs of bits in which the uses left are counted.
         private static final int LOW_BITS = 0x1555;
         private static final int SLOTS = 4096;
-        private static final int LAST_STAMP = 2047;
 
         private int told;
         private final int[] chosen;
@@ -1342,7 +1343,8 @@ public final class NoWordTwice {
         private final int[] lean;
         private final int[] leanCounts;
         private final int[] tellable;
-        // What was found for a head and the uses left, marked by the stamp of the call for which it holds.
+        // What was found for a head and the uses left, marked by the stamp of the call for which it holds. In the 512
+        // calls of an object a stamp never needs more than the bits that the key has for it.
         private final int[] found;
         private int stamp;
 
@@ -1360,20 +1362,10 @@ public final class NoWordTwice {
         void pack(Told from, int m) {
             heads = from.words;
             listSets(from);
-            forgetFound();
+            stamp++;
             int left = m * spaced((1 << heads) - 1);
             told = mostFrom(0, left);
             choose(left);
-        }
-
-        private void forgetFound() {
-            if (stamp == LAST_STAMP) {
-                for (int slot = 0; slot < SLOTS; slot++) {
-                    found[slot] = 0;
-                }
-                stamp = 0;
-            }
-            stamp++;
         }
 
         private void listSets(Told from) {

@@ -12,10 +12,16 @@ public final class AgainstModelTest {
         "many", "others", "head", ";", "+", "-", "*", "/", "(", ")", "<", "=", ">", "0", "1", "7", "9999", "12345",
         "Fix", "x", "$", "\t", "\n", " ", "00", "\u00e9"};
 
+    /** An object answers so many calls. */
+    private static final int CALLS = 512;
+    /** No step of a run needs more calls than this. */
+    private static final int STEP = 40;
+
     private final Random random;
     private final Check check = new Check();
     private NoWordTwice x;
     private Model y;
+    private int calls;
 
     private AgainstModelTest(long seed) {
         random = new Random(seed);
@@ -23,12 +29,21 @@ public final class AgainstModelTest {
 
     public static void main(String[] args) {
         AgainstModelTest test = new AgainstModelTest(args.length > 0 ? Long.parseLong(args[0]) : 20261117L);
-        int runs = args.length > 1 ? Integer.parseInt(args[1]) : 300;
+        int runs = args.length > 1 ? Integer.parseInt(args[1]) : 500;
         for (int run = 0; run < runs; run++) {
             test.check.promise("run " + run);
             test.run(run);
         }
         test.check.finish();
+    }
+
+    private void due(String call, long got, long want) {
+        calls++;
+        check.due(call, got, want);
+    }
+
+    private void due(String call, boolean got, boolean want) {
+        due(call, got ? 1 : 0, want ? 1 : 0);
     }
 
     private int below(int n) {
@@ -43,24 +58,25 @@ public final class AgainstModelTest {
     private void run(int run) {
         x = new NoWordTwice();
         y = new Model();
+        calls = 0;
         int words = run % 10 == 0 ? 16 : 2 + below(6);
         int bits = 2 + below(9);
         for (int i = 0; i < words; i++) {
             int marks = 1 + below((1 << bits) - 1) & (below(2) == 0 ? -1 : below(1024) | 1);
-            check.due("word", x.word(marks), y.word(marks));
+            due("word", x.word(marks), y.word(marks));
         }
         tellLaw(LAWS[below(LAWS.length)]);
         for (int i = 0; i < 3 * words; i++) {
             addEntry();
         }
-        for (int i = 0; i < 150; i++) {
+        while (calls < CALLS - STEP) {
             if (below(3) == 0) {
                 tell();
             } else {
                 ask();
             }
         }
-        lookAtAll();
+        lookAround(CALLS - calls);
     }
 
     private void addEntry() {
@@ -69,18 +85,18 @@ public final class AgainstModelTest {
         int c = below(2) == 0 ? -1 : near(n);
         int head = near(n);
         int a = near(n);
-        check.due("entry", x.entry(head, a, b, c), y.entry(head, a, b, c));
+        due("entry", x.entry(head, a, b, c), y.entry(head, a, b, c));
     }
 
     private void tellLaw(String text) {
         for (int from = 0; from < text.length(); from += 20) {
             int[] f = Check.fives(text, from);
-            check.due("feed", x.feed(f[0], f[1], f[2], f[3], f[4]), y.feed(f[0], f[1], f[2], f[3], f[4]));
+            due("feed", x.feed(f[0], f[1], f[2], f[3], f[4]), y.feed(f[0], f[1], f[2], f[3], f[4]));
         }
-        check.due("end", x.end(text.length()), y.end(text.length()));
-        check.due("text " + text, x.text(), y.text());
-        check.due("fault 0 " + text, x.fault(0), y.fault(0));
-        check.due("fault 1 " + text, x.fault(1), y.fault(1));
+        due("end", x.end(text.length()), y.end(text.length()));
+        due("text " + text, x.text(), y.text());
+        due("fault 0 " + text, x.fault(0), y.fault(0));
+        due("fault 1 " + text, x.fault(1), y.fault(1));
     }
 
     private String anyText() {
@@ -149,13 +165,13 @@ public final class AgainstModelTest {
             case 0: tellLaw(anyText()); break;
             case 1: tellLaw(LAWS[below(LAWS.length)]); break;
             case 2: addEntry(); break;
-            case 3: check.due("drop", x.drop(e), y.drop(e)); break;
-            case 4: check.due("move", x.move(e, f), y.move(e, f)); break;
+            case 3: due("drop", x.drop(e), y.drop(e)); break;
+            case 4: due("move", x.move(e, f), y.move(e, f)); break;
             case 5: set(0, v, near(4)); break;
             case 6: set(1, v, below(2) == 0 ? near(1001) : 1000); break;
             case 7: set(2, v, near(2)); break;
             case 8: set(3, v, near(1024)); break;
-            case 9: check.due("undo", x.undo(), y.undo()); break;
+            case 9: due("undo", x.undo(), y.undo()); break;
             case 10: image(below(2) == 0); break;
             case 11: state(random.nextInt()); break;
             default: editions(below(6) == 0 ? near(51) : 1 + below(3)); break;
@@ -164,21 +180,21 @@ public final class AgainstModelTest {
 
     private void set(int what, int word, int v) {
         int w = below(30) == 0 ? near(5) : what;
-        check.due("set", x.set(w, word, v), y.set(w, word, v));
+        due("set", x.set(w, word, v), y.set(w, word, v));
     }
 
     private void image(boolean taken) {
-        check.due("image", x.image(taken), y.image(taken));
-        lookAtAll();
+        due("image", x.image(taken), y.image(taken));
+        lookAround(12);
     }
 
     private void state(int v) {
-        check.due("state", x.state(v), y.state(v));
+        due("state", x.state(v), y.state(v));
     }
 
     private void editions(int n) {
-        check.due("editions " + n, x.editions(n), y.editions(n));
-        lookAtAll();
+        due("editions " + n, x.editions(n), y.editions(n));
+        lookAround(12);
     }
 
     private void ask() {
@@ -189,81 +205,82 @@ public final class AgainstModelTest {
         int v = near(n);
         int what = near(5);
         switch (below(14)) {
-            case 0: check.due("of", x.of(v, what), y.of(v, what)); break;
+            case 0: due("of", x.of(v, what), y.of(v, what)); break;
             case 1: askAt(e, below(5) == 0 ? near(3) : 10 + near(3)); break;
-            case 2: check.due("fixes", x.fixes(v, set), y.fixes(v, set)); break;
-            case 3: check.due("judge", x.judge(what), y.judge(what)); break;
-            case 4: check.due("learnt", x.learnt(set, what % 2), y.learnt(set, what % 2)); break;
-            case 5: check.due("order", x.order(e), y.order(e)); break;
-            case 6: check.due("ring", x.ring(), y.ring()); break;
+            case 2: due("fixes", x.fixes(v, set), y.fixes(v, set)); break;
+            case 3: due("judge", x.judge(what), y.judge(what)); break;
+            case 4: due("learnt", x.learnt(set, what % 2), y.learnt(set, what % 2)); break;
+            case 5: due("order", x.order(e), y.order(e)); break;
+            case 6: due("ring", x.ring(), y.ring()); break;
             case 7: askFewest(); break;
             case 8: askWorn(e); break;
-            case 9: check.due("judge 0", x.judge(0), y.judge(0)); break;
+            case 9: due("judge 0", x.judge(0), y.judge(0)); break;
             case 10: askMost(); break;
-            case 11: check.due("trade", x.trade(what), y.trade(what)); break;
+            case 11: due("trade", x.trade(what), y.trade(what)); break;
             case 12: askBook(near(y.w.book.size()), near(4)); break;
             default: askLearnt(set, what); break;
         }
     }
 
     private void askAt(int e, int what) {
-        check.due("at", x.at(e, what), y.at(e, what));
+        due("at", x.at(e, what), y.at(e, what));
     }
 
     private void askFewest() {
         if (y.n() > 8 && below(10) != 0) {
             return;
         }
-        check.due("cut", x.cut(), y.cut());
-        check.due("least", x.least(), y.least());
+        due("cut", x.cut(), y.cut());
+        due("least", x.least(), y.least());
     }
 
     private void askWorn(int e) {
         for (int i = -1; i < 4; i++) {
-            check.due("worn " + e + " " + i, x.worn(e, i), y.worn(e, i));
+            due("worn " + e + " " + i, x.worn(e, i), y.worn(e, i));
         }
     }
 
     private void askMost() {
         int m = near(4);
-        // The model tries all ways, which is too long for more words than five.
-        if (y.n() > 5 && y.n() < 8) {
+        // The model is slow with many words, so it is asked less of them.
+        int step = y.n() > 5 && y.n() < 8 ? 1 + below(y.n()) : 2;
+        if (step != 2 && below(4) != 0) {
             return;
         }
-        check.due("most 0", x.most(m, 0), y.most(m, 0));
-        for (int h = 0; h < y.n(); h += 2) {
-            check.due("most " + m + " 10+" + h, x.most(m, 10 + h), y.most(m, 10 + h));
+        due("most 0", x.most(m, 0), y.most(m, 0));
+        for (int h = below(2); h < y.n(); h += step) {
+            due("most " + m + " 10+" + h, x.most(m, 10 + h), y.most(m, 10 + h));
         }
         int what = near(20);
-        check.due("most what " + what, x.most(m, what), y.most(m, what));
+        due("most what " + what, x.most(m, what), y.most(m, what));
     }
 
     private void askBook(int i, int what) {
-        check.due("book", x.book(i, what), y.book(i, what));
+        due("book", x.book(i, what), y.book(i, what));
     }
 
     private void askLearnt(int set, int what) {
-        check.due("learnt what", x.learnt(set, what), y.learnt(set, what));
+        due("learnt what", x.learnt(set, what), y.learnt(set, what));
     }
 
-    private void lookAtAll() {
-        for (int what = -1; what < 10; what++) {
-            check.due("look " + what, x.look(what), y.look(what));
-        }
-        for (int e = 0; e < 12; e++) {
-            for (int what = 0; what < 14; what++) {
-                check.due("at " + e + " " + what, x.at(e, what), y.at(e, what));
+    /** So many questions of what stands, by chance. */
+    private void lookAround(int questions) {
+        for (int i = 0; i < questions; i++) {
+            int what = below(6);
+            switch (below(4)) {
+                case 0: askLook(below(11) - 1); break;
+                case 1: askAt(near(y.w.entries.size()), what < 3 ? what : 7 + what); break;
+                case 2: askBook(near(y.w.book.size()), below(4)); break;
+                default: askOf(near(y.n()), below(5)); break;
             }
         }
-        for (int i = 0; i <= y.w.book.size(); i++) {
-            for (int what = 0; what < 4; what++) {
-                check.due("book " + i + " " + what, x.book(i, what), y.book(i, what));
-            }
-        }
-        for (int v = 0; v < 16; v++) {
-            for (int what = 0; what < 5; what++) {
-                check.due("of " + v + " " + what, x.of(v, what), y.of(v, what));
-            }
-        }
+    }
+
+    private void askLook(int what) {
+        due("look " + what, x.look(what), y.look(what));
+    }
+
+    private void askOf(int word, int what) {
+        due("of " + word + " " + what, x.of(word, what), y.of(word, what));
     }
 }

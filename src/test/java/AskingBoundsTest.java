@@ -125,7 +125,8 @@ public final class AskingBoundsTest extends BoundsCase {
     }
 
     private void atAnEntry() {
-        sentence(14, "Of an ENTRY what 0 HEAD, 1 how many are USED, 2 1 if they FIX it, else 0, 10 + i the i-th USED one.");
+        sentence(14, "Of an ENTRY what 0 HEAD, 1 how many are USED, 2 1 if they FIX it, else 0, "
+                + "10 + i the i-th USED one.");
         NoWordTwice x = Worlds.wordsAndLaw(16, "fix when many=2;");
         x.entry(15, 3, NONE, NONE);
         x.entry(0, 15, 4, NONE);
@@ -258,6 +259,9 @@ public final class AskingBoundsTest extends BoundsCase {
         value(x, 0, 1 << 1, "others", 12);
         value(x, 0, 1 << 15, "others", 14);
         value(x, 0, 0xfffe, "others", 0);
+        value(x, 5, 1 << 1, "others", 12);
+        value(x, 14, 1 << 15, "others", 14);
+        value(x, 15, 0x7fff, "others", 0);
         x.set(3, 0, 1);
         value(x, 1, 1, "others", 0);
         value(x, 15, 1 << 1, "others", 13);
@@ -289,6 +293,16 @@ public final class AskingBoundsTest extends BoundsCase {
         x.drop(11);
         x.entry(12, 11, NONE, NONE);
         judged("the twelfth has a fault", x, 2, 11, 11);
+        NoWordTwice full = Worlds.wordsAndLaw(16, "fix;");
+        full.set(0, 0, 3);
+        for (int w = 0; w < 16; w++) {
+            full.set(2, w, 1);
+            full.entry(w, (w + 1) % 16, (w + 2) % 16, (w + 3) % 16);
+        }
+        due("twelve entries", full.look(1), 12);
+        judged("twelve entries of three words each", full, 0, NONE, NONE);
+        full.set(2, 14, 0);
+        judged("the last one's last word is not known", full, 4, 11, 14);
     }
 
     private void firstFaultOfAnEntry() {
@@ -333,7 +347,8 @@ public final class AskingBoundsTest extends BoundsCase {
     }
 
     private void usedSoOften() {
-        sentence(16, "2 a WORD that it USES was USED so often ahead of it already as LIMIT says (told: that WORD, by its row)");
+        sentence(16, "2 a WORD that it USES was USED so often ahead of it already as LIMIT says "
+                + "(told: that WORD, by its row)");
         for (int limit = 1; limit <= 3; limit++) {
             for (int word : new int[] {0, 15}) {
                 NoWordTwice x = Worlds.wordsAndLaw(16, "fix;");
@@ -388,6 +403,23 @@ public final class AskingBoundsTest extends BoundsCase {
         judged("so is a head that is not known", x, 0, NONE, NONE);
         x.set(2, 3, 0);
         judged("no more known", x, 4, 0, 3);
+        NoWordTwice y = Worlds.wordsAndLaw(16, "fix;");
+        y.set(0, 0, 3);
+        for (int e = 0; e < 12; e++) {
+            y.entry(e, 15 - e % 4, 15 - (e + 1) % 4, e == 11 ? 10 : 15 - (e + 2) % 4);
+        }
+        for (int w = 12; w < 16; w++) {
+            y.set(2, w, 1);
+        }
+        judged("four words for twelve entries of three", y, 2, 4, 15);
+        y.drop(4);
+        y.entry(4, 3, 2, 0);
+        for (int e = 4; e < 11; e++) {
+            y.drop(4);
+        }
+        judged("known words in four, and heads in the fifth", y, 0, NONE, NONE);
+        y.entry(6, 5, NONE, NONE);
+        judged("the fifth's three are told, the sixth's one is not", y, 4, 5, 5);
     }
 
     private void judgeOfAnotherWhat() {
@@ -440,7 +472,8 @@ public final class AskingBoundsTest extends BoundsCase {
         y.set(2, 1, 1);
         due("what is KNOWN he does not know by that", y.learnt(0, 0), 0);
         due("a head that he knows", y.learnt(32, 0), 32);
-        sentence(17, "what he knows behind all, and behind how many rounds nothing came any more (that round not counted).");
+        sentence(17, "what he knows behind all, and behind how many rounds nothing came any more "
+                + "(that round not counted).");
         due("all but one that no entry fixes", y.learnt(11, 0), 31);
         due("the heads that came are counted by rounds", y.learnt(11, 1), 1);
         due("he knows what would come", y.learnt(31, 1), 0);

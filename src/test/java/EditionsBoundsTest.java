@@ -643,6 +643,22 @@ public final class EditionsBoundsTest extends BoundsCase {
         }
         y.image(false);
         same("behind undone editions", Worlds.picture(y), before);
+        NoWordTwice z = Worlds.busy();
+        int line = firstLine(z);
+        z.image(true);
+        for (int i = 0; i < 3; i++) {
+            z.undo();
+        }
+        z.state(99);
+        z.set(1, 0, 1000);
+        z.editions(5);
+        due("another line stands in the book", firstLine(z) != line, true);
+        z.image(false);
+        same("the lines of the book come back", Worlds.picture(z), before);
+    }
+
+    private static int firstLine(NoWordTwice x) {
+        return x.book(0, 1) << 8 | x.book(0, 2) << 4 | x.book(0, 3);
     }
 
     private void imageOfNone() {

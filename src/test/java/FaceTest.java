@@ -111,50 +111,69 @@ public final class FaceTest {
         }
     }
 
-    /** All calls with numbers far off, before and behind the filling: none may throw. */
+    /** All calls with numbers far off, of an empty object and of a filled one: none may throw. */
     private static void everyCallEnds() {
         CHECK.promise("every call");
         int[] odd = {Integer.MIN_VALUE, -100, -2, -1, 0, 1, 2, 3, 9, 10, 11, 16, 17, 31, 32, 33, 399, 400, 401, 1023,
             65535, 65536, Integer.MAX_VALUE};
-        NoWordTwice x = new NoWordTwice();
-        for (int round = 0; round < 2; round++) {
-            for (int a : odd) {
+        for (int a : odd) {
+            for (int round = 0; round < 2; round++) {
+                NoWordTwice x = round == 0 ? new NoWordTwice() : filled();
                 for (int b : odd) {
-                    x.set(a, b, b);
-                    x.of(a, b);
-                    x.at(a, b);
-                    x.fixes(a, b);
-                    x.learnt(a, b);
-                    x.most(a, b);
-                    x.worn(a, b);
-                    x.book(a, b);
-                    x.move(a, b);
-                    x.entry(a, b, a, b);
+                    callsOfTwo(x, a, b);
                 }
-                x.judge(a);
-                x.order(a);
-                x.trade(a);
-                x.look(a);
-                x.fault(a);
-                x.end(a);
-                x.state(a);
-                x.feed(a, a, a, a, a);
-                x.text();
-                x.editions(a);
-                x.cut();
-                x.least();
-                x.ring();
-                x.undo();
-                x.image(round == 0);
+                callsOfOne(x, a);
+                CHECK.due("it came here", x.look(0) >= 0, true);
             }
-            for (int i = 0; i < 16; i++) {
-                x.word(1 + i * 60);
-            }
-            for (int i = 0; i < 12; i++) {
-                x.entry(i, i + 1, i + 2, i + 3);
-            }
-            x.set(1, 0, 1000);
         }
-        CHECK.due("it came here", x.look(0) >= 0, true);
+    }
+
+    private static NoWordTwice filled() {
+        NoWordTwice x = new NoWordTwice();
+        for (int i = 0; i < 16; i++) {
+            x.word(1 + i * 60);
+        }
+        for (int i = 0; i < 12; i++) {
+            x.entry(i, i + 1, i + 2, i + 3);
+        }
+        x.set(1, 0, 1000);
+        Check.law(x, "fix when common>lack*more/2+many-others;");
+        x.editions(9);
+        return x;
+    }
+
+    private static void callsOfTwo(NoWordTwice x, int a, int b) {
+        x.set(a, b, b);
+        x.of(a, b);
+        x.at(a, b);
+        x.fixes(a, b);
+        x.learnt(a, b);
+        x.most(a, b);
+        x.worn(a, b);
+        x.book(a, b);
+        x.move(a, b);
+        x.entry(a, b, a, b);
+    }
+
+    private static void callsOfOne(NoWordTwice x, int a) {
+        x.judge(a);
+        x.order(a);
+        x.trade(a);
+        x.look(a);
+        x.fault(a);
+        x.cut();
+        x.least();
+        x.ring();
+        x.image(true);
+        x.drop(a);
+        x.word(a);
+        x.state(a);
+        x.feed(a, a, a, a, a);
+        x.end(a);
+        x.text();
+        x.editions(a);
+        x.undo();
+        x.image(false);
+        x.undo();
     }
 }

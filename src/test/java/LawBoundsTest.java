@@ -106,6 +106,20 @@ public final class LawBoundsTest extends BoundsCase {
         due("end(1) of an empty tape", z.end(1), false);
         due("text() of none", z.text(), 0);
         due("end(0) of a new object", new NoWordTwice().end(0), true);
+        cutShort("fix when 1=12345", 15, 15);
+        cutShort("fix when 1=1;x", 13, NONE);
+        cutShort("fix when 1=1;1", 13, NONE);
+        cutShort("fix;loosely", 9, 9);
+        cutShort("fixes", 3, 3);
+    }
+
+    /** A text that is cut off ahead of some of its bytes is read as if they had never come. */
+    private void cutShort(String text, int length, int place) {
+        NoWordTwice x = new NoWordTwice();
+        Check.put(x, text);
+        x.end(length);
+        x.text();
+        due("'" + text + "' cut to " + length + ": fault(1)", x.fault(1), place);
     }
 
     private void endThatCannotBe() {
@@ -140,6 +154,15 @@ public final class LawBoundsTest extends BoundsCase {
         String blanks = " ".repeat(395);
         due("a text of 400 bytes", Check.law(x, blanks + "fix ;"), 1);
         due("a text of 400 bytes fixes", x.fixes(0, 2), 1);
+        String longest = "loose when " + "1=2 or ".repeat(54) + "1=1 ;";
+        due("its length", longest.length(), 394);
+        for (int i = 0; i < 8; i++) {
+            due("one long law behind the other", Check.law(x, longest), 1);
+            due("its answer", x.fixes(0, 2), 0);
+        }
+        due("a short one behind them", Check.law(x, "loose when many=2;fix when 1=1 and 2=2;"), 2);
+        due("its first line", x.fixes(0, 6), 0);
+        due("its second line", x.fixes(0, 2), 1);
         sentence(10, "THE LAW is a TEXT (empty at first)");
         NoWordTwice y = Worlds.words(3);
         due("look(7) at first", y.look(7), 0);
@@ -383,6 +406,10 @@ public final class LawBoundsTest extends BoundsCase {
         bad("fix when 1=1 when 1=1;", 1, 13);
         bad("fix;".repeat(15) + "fix fix;", 1, 64);
         bad(" ".repeat(399) + "x", 1, 399);
+        bad(" ".repeat(399) + "1", 1, 399);
+        bad(";".repeat(400), 1, 0);
+        bad("(".repeat(400), 1, 0);
+        bad("fix when 1=1" + "+1".repeat(194), 1, 400);
         bad("fix;" + " ".repeat(395) + ";", 1, 399);
     }
 

@@ -1,5 +1,8 @@
 import java.util.ArrayList;
+import java.util.Arrays;
+import java.util.HashMap;
 import java.util.List;
+import java.util.Map;
 
 /** The document once more, in the plainest way and without regard for speed, to hold the class against. */
 final class Model {
@@ -440,15 +443,30 @@ final class Model {
         return best;
     }
 
-    private int[] mostSets;
-    private int mostTold;
-    private List<List<Integer>> mostChoices;
-
     int most(int m, int what) {
         if (m < 1 || m > 3 || n() > 7 || what != 0 && (what < 10 || what >= 10 + n())) {
             return -1;
         }
-        mostChoices = new ArrayList<>();
+        List<List<Integer>> choices = mostChoices();
+        Map<Integer, Integer> found = new HashMap<>();
+        int[] left = new int[n()];
+        Arrays.fill(left, m);
+        int due = mostFrom(0, left, choices, found);
+        if (what == 0) {
+            return due;
+        }
+        int chosen = 0;
+        for (int h = 0; h <= what - 10; h++) {
+            chosen = firstChoice(h, left, due, choices, found);
+            left = without(left, chosen);
+            due -= chosen == 0 ? 0 : 1;
+        }
+        return chosen;
+    }
+
+    /** For each head none, and then the sets that fix it, the least first. */
+    private List<List<Integer>> mostChoices() {
+        List<List<Integer>> all = new ArrayList<>();
         for (int h = 0; h < n(); h++) {
             List<Integer> choices = new ArrayList<>();
             choices.add(0);
@@ -457,37 +475,52 @@ final class Model {
                     choices.add(set);
                 }
             }
-            mostChoices.add(choices);
+            all.add(choices);
         }
-        mostTold = -1;
-        tryHead(0, new int[n()], new int[n()], 0, m);
-        return what == 0 ? mostTold : mostSets[what - 10];
+        return all;
     }
 
-    // Ways come in the order asked for, so that the first of the best ones is the one.
-    private void tryHead(int h, int[] uses, int[] sets, int told, int m) {
-        if (told + n() - h <= mostTold) {
-            return;
+    /** The uses left behind a set; null if a word of it has none left. */
+    private static int[] without(int[] left, int set) {
+        int[] behind = left.clone();
+        for (int i = 0; i < left.length; i++) {
+            behind[i] -= set >> i & 1;
+            if (behind[i] < 0) {
+                return null;
+            }
         }
+        return behind;
+    }
+
+    private int mostFrom(int h, int[] left, List<List<Integer>> choices, Map<Integer, Integer> found) {
         if (h == n()) {
-            mostTold = told;
-            mostSets = sets.clone();
-            return;
+            return 0;
         }
-        for (int set : mostChoices.get(h)) {
-            boolean fits = true;
-            for (int i = 0; i < n(); i++) {
-                uses[i] += set >> i & 1;
-                fits &= uses[i] <= m;
+        int key = h;
+        for (int uses : left) {
+            key = key * 4 + uses;
+        }
+        if (!found.containsKey(key)) {
+            int best = 0;
+            for (int set : choices.get(h)) {
+                int[] behind = without(left, set);
+                if (behind != null) {
+                    best = Math.max(best, (set == 0 ? 0 : 1) + mostFrom(h + 1, behind, choices, found));
+                }
             }
-            sets[h] = set;
-            if (fits) {
-                tryHead(h + 1, uses, sets, told + (set == 0 ? 0 : 1), m);
-            }
-            for (int i = 0; i < n(); i++) {
-                uses[i] -= set >> i & 1;
+            found.put(key, best);
+        }
+        return found.get(key);
+    }
+
+    private int firstChoice(int h, int[] left, int due, List<List<Integer>> choices, Map<Integer, Integer> found) {
+        for (int set : choices.get(h)) {
+            int[] behind = without(left, set);
+            if (behind != null && (set == 0 ? 0 : 1) + mostFrom(h + 1, behind, choices, found) == due) {
+                return set;
             }
         }
+        throw new IllegalStateException("no choice leads to the most");
     }
 
     int worn(int e, int i) {

@@ -172,15 +172,6 @@ public final class PromisesTest {
         due("look(1) then", x.look(1), 12);
     }
 
-    private static NoWordTwice withEntries() {
-        NoWordTwice x = Worlds.words(5);
-        x.entry(0, 1, 2, 3);
-        x.entry(1, 2, NONE, NONE);
-        x.entry(2, 3, 4, NONE);
-        x.entry(3, 4, NONE, NONE);
-        return x;
-    }
-
     private static void heads(String call, NoWordTwice x, int... heads) {
         due(call + ": entries", x.look(1), heads.length);
         for (int e = 0; e < heads.length; e++) {
@@ -190,7 +181,7 @@ public final class PromisesTest {
 
     private static void drop() {
         CHECK.promise("promise 6");
-        NoWordTwice x = withEntries();
+        NoWordTwice x = Worlds.fourEntries();
         x.editions(1);
         due("drop(4)", x.drop(4), false);
         due("drop(-1)", x.drop(-1), false);
@@ -212,7 +203,7 @@ public final class PromisesTest {
 
     private static void move() {
         CHECK.promise("promise 7");
-        NoWordTwice x = withEntries();
+        NoWordTwice x = Worlds.fourEntries();
         x.editions(1);
         due("move(4, 0)", x.move(4, 0), false);
         due("move(0, 4)", x.move(0, 4), false);
@@ -310,7 +301,7 @@ public final class PromisesTest {
 
     private static void editions() {
         CHECK.promise("promise 12");
-        NoWordTwice x = withEntries();
+        NoWordTwice x = Worlds.fourEntries();
         due("editions(0)", x.editions(0), NONE);
         due("editions(51)", x.editions(51), NONE);
         due("editions(-1)", x.editions(-1), NONE);
@@ -360,7 +351,7 @@ public final class PromisesTest {
 
     private static void of() {
         CHECK.promise("promise 13");
-        NoWordTwice x = withEntries();
+        NoWordTwice x = Worlds.fourEntries();
         x.word(4);
         due("marks", x.of(4, 0), 16);
         due("known", x.of(4, 1), 0);
@@ -384,7 +375,7 @@ public final class PromisesTest {
 
     private static void at() {
         CHECK.promise("promise 14");
-        NoWordTwice x = withEntries();
+        NoWordTwice x = Worlds.fourEntries();
         due("without a law", x.at(0, 2), 0);
         Check.law(x, "fix when many=3;");
         due("head", x.at(2, 0), 2);
@@ -683,18 +674,20 @@ public final class PromisesTest {
         x.entry(3, 1, NONE, NONE);
         x.set(1, 0, 1000);
         int lines = 0;
-        int was = 1;
+        int[] is = new int[80];
         for (int i = 0; i < 90; i++) {
             int changed = x.editions(1);
             if (changed == 1 && lines < 80) {
+                is[lines] = x.at(0, 10);
                 due("edition", x.book(lines, 0), i);
-                due("entry", x.book(lines, 1), 0);
-                due("was", x.book(lines, 2), was);
-                due("is", x.book(lines, 3), x.at(0, 10));
+                due("is", x.book(lines, 3), is[lines]);
                 lines++;
             }
-            was = x.at(0, 10);
         }
+        for (int line = 0; line < lines; line++) {
+            due("was", x.book(line, 2), line == 0 ? 1 : is[line - 1]);
+        }
+        due("entry", x.book(0, 1), 0);
         x.editions(50);
         due("80 lines, no more", x.look(5), 80);
         due("the last one stays", x.book(79, 0) < 100, true);
@@ -711,7 +704,7 @@ public final class PromisesTest {
 
     /** The lines of an edition, followed from the first, lead from what was to what is. */
     private static void bookOfSeveralEntries() {
-        NoWordTwice x = withEntries();
+        NoWordTwice x = Worlds.fourEntries();
         x.set(1, 0, 1000);
         int[][] used = new int[4][3];
         for (int e = 0; e < 4; e++) {
@@ -741,7 +734,7 @@ public final class PromisesTest {
 
     private static void undo() {
         CHECK.promise("promise 26");
-        NoWordTwice x = withEntries();
+        NoWordTwice x = Worlds.fourEntries();
         x.set(1, 0, 1000);
         int[][] seen = new int[12][];
         for (int i = 0; i < 8; i++) {
@@ -787,7 +780,7 @@ public final class PromisesTest {
     private static void image() {
         CHECK.promise("promise 27");
         imageOfTheBook();
-        NoWordTwice x = withEntries();
+        NoWordTwice x = Worlds.fourEntries();
         due("none", x.image(false), false);
         Check.law(x, "fix; loose;");
         x.set(0, 0, 2);
@@ -834,7 +827,7 @@ public final class PromisesTest {
     }
 
     private static void imageOfTheBook() {
-        NoWordTwice x = withEntries();
+        NoWordTwice x = Worlds.fourEntries();
         x.set(1, 0, 1000);
         x.editions(4);
         int lines = x.look(5);
@@ -857,7 +850,7 @@ public final class PromisesTest {
 
     private static void look() {
         CHECK.promise("promise 28");
-        NoWordTwice x = withEntries();
+        NoWordTwice x = Worlds.fourEntries();
         x.set(0, 0, 3);
         x.set(1, 0, 1000);
         Check.law(x, "fix;fix;fix;");

@@ -324,15 +324,15 @@ public final class TellingBoundsTest extends BoundsCase {
 
     private void drop() {
         sentence(6, "An ENTRY goes, those behind it come one further ahead: true");
-        NoWordTwice first = fourEntries();
+        NoWordTwice first = Worlds.fourEntries();
         due("drop(0)", first.drop(0), true);
         heads("drop(0)", first, 1, 2, 3);
         rowIs(first, 1, 2, 3, 4);
-        NoWordTwice middle = fourEntries();
+        NoWordTwice middle = Worlds.fourEntries();
         due("drop(2)", middle.drop(2), true);
         heads("drop(2)", middle, 0, 1, 3);
         rowIs(middle, 0, 0, 1, 2, 3);
-        NoWordTwice last = fourEntries();
+        NoWordTwice last = Worlds.fourEntries();
         due("drop(3)", last.drop(3), true);
         heads("drop(3)", last, 0, 1, 2);
         due("at(3, 0)", last.at(3, 0), NONE);
@@ -361,11 +361,11 @@ public final class TellingBoundsTest extends BoundsCase {
         int[][] moved = {{0, 3, 1, 2, 3, 0}, {3, 0, 3, 0, 1, 2}, {1, 2, 0, 2, 1, 3}, {2, 1, 0, 2, 1, 3},
             {0, 1, 1, 0, 2, 3}, {3, 2, 0, 1, 3, 2}, {0, 0, 0, 1, 2, 3}, {3, 3, 0, 1, 2, 3}};
         for (int[] m : moved) {
-            NoWordTwice x = fourEntries();
+            NoWordTwice x = Worlds.fourEntries();
             due("move(" + m[0] + ", " + m[1] + ")", x.move(m[0], m[1]), true);
             heads("move(" + m[0] + ", " + m[1] + ")", x, m[2], m[3], m[4], m[5]);
         }
-        NoWordTwice x = fourEntries();
+        NoWordTwice x = Worlds.fourEntries();
         x.move(0, 3);
         rowIs(x, 3, 0, 1, 2, 3);
         rowIs(x, 0, 1, 2);
@@ -388,15 +388,6 @@ public final class TellingBoundsTest extends BoundsCase {
         leaves("move(0, 0) of none", Worlds.words(3), 0, x -> number(x.move(0, 0)));
         leaves("move(0, 12) of twelve", Worlds.chain("fix;"), 0, x -> number(x.move(0, 12)));
         leaves("move(12, 0) of twelve", Worlds.chain("fix;"), 0, x -> number(x.move(12, 0)));
-    }
-
-    private static NoWordTwice fourEntries() {
-        NoWordTwice x = Worlds.words(5);
-        x.entry(0, 1, 2, 3);
-        x.entry(1, 2, NONE, NONE);
-        x.entry(2, 3, 4, NONE);
-        x.entry(3, 4, NONE, NONE);
-        return x;
     }
 
     private void refusesEntry(int... w) {

@@ -166,6 +166,16 @@ public final class ThoughtBoundsTest extends BoundsCase {
         x.set(2, 0, 1);
         x.entry(0, 3, NONE, NONE);
         most("LIMIT, KNOWN and ENTRIES do not matter", x, 1, 7, 2, 1, 8, 4, 32, 64, 16);
+        Check.law(x, "fix when many=2;");
+        most("another law", x, 1, 3, 0, 0, 0, 0, 3, 12, 48);
+        Check.law(x, "fix when many=1;");
+        most("the law that was", x, 1, 7, 2, 1, 8, 4, 32, 64, 16);
+        Check.law(x, "fix when common>0;");
+        most("words without common marks", x, 1, 0, 0, 0, 0, 0, 0, 0, 0);
+        x.set(3, 0, 64);
+        most("two of common marks", x, 1, 2, 64, 0, 0, 0, 0, 0, 1);
+        x.set(3, 5, 64);
+        most("three of common marks", x, 1, 3, 32, 0, 0, 0, 0, 64, 1);
     }
 
     private void mostOfSeveralWays() {
@@ -192,6 +202,14 @@ public final class ThoughtBoundsTest extends BoundsCase {
         most("one", Worlds.wordsAndLaw(3, "fix when many=1;"), 3, 3, 2, 1, 1);
         most("two", Worlds.wordsAndLaw(3, "fix when many=2;"), 3, 3, 6, 5, 3);
         most("two of two words, one is the head", Worlds.wordsAndLaw(2, "fix when many=2;"), 3, 0, 0, 0);
+        most("not one", Worlds.wordsAndLaw(3, "fix when not many=1;"), 3, 3, 6, 5, 3);
+        NoWordTwice either = new NoWordTwice();
+        for (int marks : new int[] {1, 6, 2, 64, 128 | 256 | 512}) {
+            either.word(marks);
+        }
+        Check.law(either, "fix when head=3 and more=2;fix when head=4 and more=2 and many=1;");
+        most("two, so that one is left for another head", either, 1, 2, 0, 0, 0, 5, 2);
+        most("one for both heads", either, 2, 2, 0, 0, 0, 2, 2);
         NoWordTwice x = Worlds.wordsAndLaw(3, "fix when common>0;");
         most("not with itself", x, 3, 0, 0, 0, 0);
         x.set(3, 2, 1);
@@ -256,8 +274,8 @@ public final class ThoughtBoundsTest extends BoundsCase {
         due("of the first", x.worn(0, 0), 0xfff0);
         Check.law(x, "");
         due("without a law", x.worn(0, 0), 0);
-        sentence(23, "WORN: of an ENTRY the i-th USED WORD can't be read: the set of WORDS (not its HEAD, not its others) "
-                + "that, there, would FIX it");
+        sentence(23, "WORN: of an ENTRY the i-th USED WORD can't be read: the set of WORDS "
+                + "(not its HEAD, not its others) that, there, would FIX it");
         Check.law(x, "fix;");
         due("the first of three", x.worn(1, 0), 0x7f73);
         due("the second of three", x.worn(1, 1), 0x7f75);
@@ -337,8 +355,8 @@ public final class ThoughtBoundsTest extends BoundsCase {
     }
 
     private void tradeLeavesRows() {
-        sentence(24, "TRADE: couples of ENTRIES (the earlier first), each with a USED WORD, that could be changed for one "
-                + "another, so that both are such rows still");
+        sentence(24, "TRADE: couples of ENTRIES (the earlier first), each with a USED WORD, "
+                + "that could be changed for one another, so that both are such rows still");
         NoWordTwice head = marked(1, 3, 1);
         head.entry(0, 1, NONE, NONE);
         head.entry(1, 2, NONE, NONE);
@@ -377,6 +395,15 @@ public final class ThoughtBoundsTest extends BoundsCase {
         later.entry(1, 3, 2, NONE);
         later.entry(0, 4, NONE, NONE);
         trades("the earlier one did, both would", later, 1, 0, 1, 1, 0);
+        NoWordTwice behind = marked(1, 2, 1, 2, 4);
+        behind.entry(4, 3, NONE, NONE);
+        behind.entry(0, 4, NONE, NONE);
+        behind.entry(1, 3, 2, NONE);
+        trades("the latest did, both would", behind, 1, 1, 2, 0, 1);
+        Check.law(behind, "fix;");
+        trades("all do", behind, 0);
+        Check.law(behind, "fix when lack=0;");
+        trades("not all do any more", behind, 1, 1, 2, 0, 1);
         NoWordTwice none = marked(1, 2, 1, 8);
         none.entry(0, 3, NONE, NONE);
         none.entry(1, 2, NONE, NONE);

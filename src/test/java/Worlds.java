@@ -37,6 +37,16 @@ final class Worlds {
         return x;
     }
 
+    /** Four entries, entry e telling word e, of which the first uses three words. */
+    static NoWordTwice fourEntries() {
+        NoWordTwice x = words(5);
+        x.entry(0, 1, 2, 3);
+        x.entry(1, 2, NONE, NONE);
+        x.entry(2, 3, 4, NONE);
+        x.entry(3, 4, NONE, NONE);
+        return x;
+    }
+
     /** Twelve entries told by one word each: entry e tells word e by the next one. */
     static NoWordTwice chain(String law) {
         NoWordTwice x = wordsAndLaw(13, law);
