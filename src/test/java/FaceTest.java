@@ -77,8 +77,18 @@ public final class FaceTest {
             CHECK.due(c + " has few fields", fields <= 20, true);
             for (Method m : c.getDeclaredMethods()) {
                 CHECK.due(m + " takes few", m.getParameterCount() <= 7, true);
+                CHECK.due(m + " bears a public name", isPublicName(m.getName()), false);
             }
         }
+    }
+
+    private static boolean isPublicName(String name) {
+        for (String method : FACE) {
+            if (method.contains(" " + name + "(")) {
+                return true;
+            }
+        }
+        return false;
     }
 
     private static void source() throws IOException {
